@@ -18,24 +18,24 @@ public final class WhoseKiln {
     private static final int MOST_PLAIN = 216;
 
     // Outside of what GOOD can be, so that a row can hold them beside it.
-    private static final int UNKNOWN = Integer.MAX_VALUE;
-    private static final int NOTHING = Integer.MIN_VALUE;
+    private static final int UNKNOWN = 1 << 30;
+    private static final int NOTHING = -UNKNOWN;
 
+    private final Turns turns;
+    private final Worths worths;
     private final Told told;
     private final Told spare;
     private final Told[] marks;
     private final Reader reader;
-    private final Worths worths;
-    private final Turns turns;
     private final int[] plain;
 
     public WhoseKiln() {
-        told = new Told();
+        turns = new Turns();
+        worths = turns.worths;
+        told = worths.told;
         spare = new Told();
         marks = new Told[MOST_MARKS];
         reader = new Reader();
-        worths = new Worths(told);
-        turns = new Turns(told, worths);
         plain = new int[MOST_PLAIN];
         forgetPlain();
     }
@@ -933,7 +933,7 @@ public final class WhoseKiln {
             return NONE;
         }
 
-        boolean readJoined(int level, int within) {
+        private boolean readJoined(int level, int within) {
             if (level >= PARTS) {
                 return readPart(within);
             }
@@ -952,7 +952,7 @@ public final class WhoseKiln {
             return true;
         }
 
-        boolean readPart(int within) {
+        private boolean readPart(int within) {
             int named = token == NAME ? whoseName() : NONE;
             if (token == NAME && (named == NONE || named >= MOST_PEOPLE)) {
                 return wrong(UNTOLD);
@@ -1086,7 +1086,7 @@ public final class WhoseKiln {
         static final int SETS_BITS = MOST_PEOPLE + MOST_THINGS;
         static final int MOST_WORTH = 99999;
 
-        final Told told;
+        final Told told = new Told();
         final int[] rows = new int[ROWS_OF_PAINS << SETS_BITS];
         final int[] filled = new int[ROWS_OF_PAINS];
         final long[] values = new long[MOST_LINES];
@@ -1095,10 +1095,6 @@ public final class WhoseKiln {
         int age = 1;
         int scaledLine = NONE;
         int times = TENTHS;
-
-        Worths(Told told) {
-            this.told = told;
-        }
 
         void forget() {
             age++;
@@ -1250,8 +1246,8 @@ public final class WhoseKiln {
         // Of 24, in how many orders one comes behind just one given set: a row for 1, 2, 3 and 4 PEOPLE.
         private static final int[] ORDERS = {24, 0, 0, 0, 12, 12, 0, 0, 8, 4, 8, 0, 6, 2, 2, 6};
 
-        final Told told;
-        final Worths worths;
+        final Worths worths = new Worths();
+        final Told told = worths.told;
         final Owning asked = new Owning();
         final Owning other = new Owning();
         int deal;
@@ -1259,11 +1255,6 @@ public final class WhoseKiln {
         int dealer;
         int dealSum;
         int rounds;
-
-        Turns(Told told, Worths worths) {
-            this.told = told;
-            this.worths = worths;
-        }
 
         void lookAsIs() {
             asked.copyFrom(told);
@@ -1330,15 +1321,20 @@ public final class WhoseKiln {
             int others = pains & ~(3 << 2 * person);
             int best = others;
             long most = held(person, others);
+            boolean content = staying && pains == others;
             for (int step = 1; step <= told.steps[person]; step++) {
                 int there = others | step << 2 * person;
                 long got = held(person, there);
                 if (got > most) {
                     best = there;
                     most = got;
+                    content = false;
+                }
+                if (staying && there == pains && got == most) {
+                    content = true;
                 }
             }
-            return staying && held(person, pains) == most ? pains : best;
+            return content ? pains : best;
         }
 
         long held(int person, int pains) {
