@@ -1267,26 +1267,23 @@ public final class WhoseKiln {
         }
 
         void lookAtRight(int thing, int buyer, int price) {
-            lookAtDeal(thing, 1 << buyer);
+            lookAtDeal(thing, 1 << buyer, buyer, price);
             deal = RIGHT;
-            dealThing = thing;
-            dealer = buyer;
-            dealSum = price;
         }
 
         void lookAtPledge(int thing, int person, int sum) {
-            lookAtDeal(thing, 0);
+            lookAtDeal(thing, 0, person, sum);
             deal = PLEDGE;
-            dealThing = thing;
-            dealer = person;
-            dealSum = sum;
         }
 
-        void lookAtDeal(int thing, int ownersAfter) {
+        void lookAtDeal(int thing, int ownersAfter, int who, int sum) {
             lookAsIs();
             other.copyFrom(told);
             other.give(thing, ownersAfter, 1);
             other.settle(told);
+            dealThing = thing;
+            dealer = who;
+            dealSum = sum;
         }
 
         /** Where each goes from 0 on but for the fixed one, who stays as told; NONE if they come to no end. */
