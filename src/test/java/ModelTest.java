@@ -1,8 +1,9 @@
 import java.util.NoSuchElementException;
 import java.util.Random;
 
-/** Runs of calls drawn by a fixed seed, answered by the program and by the Model. */
+/** Runs of at most 512 calls drawn by a fixed seed, answered by the program and by the Model. */
 public final class ModelTest {
+    static final int MOST_CALLS = 512;
     static final int RUNS = 900;
     static final String[] NAMES = {"a", "bo", "cy", "potter", "abcdefgh", "kiln", "clay", "x", "withx", "nota"};
 
@@ -12,6 +13,7 @@ public final class ModelTest {
     final StringBuilder told = new StringBuilder();
     int people;
     int things;
+    int calls;
 
     ModelTest(long seed) {
         random = new Random(seed);
@@ -31,8 +33,9 @@ public final class ModelTest {
     }
 
     boolean run() {
-        int size = random.nextInt(3) == 0 ? 2 : 1;
-        boolean small = random.nextInt(4) != 0;
+        boolean whole = random.nextInt(15) == 0;
+        int size = whole ? 4 : random.nextInt(3) == 0 ? 2 : 1;
+        boolean small = whole || random.nextInt(4) != 0;
         for (int w = 0; w < size; w++) {
             if (!load(text(small))) {
                 return false;
@@ -42,8 +45,8 @@ public final class ModelTest {
                     return false;
                 }
             }
-            int calls = small ? 60 : 12;
-            for (int c = 0; c < calls; c++) {
+            int most = whole && w == size - 1 ? MOST_CALLS : small ? 60 : 12;
+            for (int c = 0; c < most && calls < MOST_CALLS; c++) {
                 if (!call(random.nextInt(40))) {
                     return false;
                 }
@@ -211,6 +214,7 @@ public final class ModelTest {
     }
 
     boolean same(String name, Object a, Object b, Object c, long got, long due) {
+        calls++;
         told.append(name).append('(').append(a).append(", ").append(b).append(", ").append(c).append(") = ").append(got);
         if (got != due) {
             told.append(" but the model: ").append(due);
@@ -253,14 +257,14 @@ public final class ModelTest {
     int pains() {
         int y = 0;
         for (int p = 0; p < people; p++) {
-            y |= random.nextInt(1 + Math.max(1, program.count(4) > 30 ? 3 : 2)) << 2 * p;
+            y |= random.nextInt(1 + Math.max(1, model.count(4) > 30 ? 3 : 2)) << 2 * p;
         }
         if (random.nextInt(3) == 0) {
             return odd(random.nextInt(256));
         }
         for (int p = 0; p < people; p++) {
             int top = 0;
-            while (top < 3 && program.cost(p, top + 1) >= 0) {
+            while (top < 3 && model.cost(p, top + 1) >= 0) {
                 top++;
             }
             if ((y >> 2 * p & 3) > top) {
@@ -287,6 +291,7 @@ public final class ModelTest {
     }
 
     boolean agree(String call, Call a, Call b) {
+        calls++;
         String got;
         try {
             got = tell(a);
@@ -321,8 +326,8 @@ public final class ModelTest {
         int ten = odd(random.nextInt(11));
         int kind = odd(random.nextInt(3));
         int ts = odd(random.nextInt(1 << things));
-        int plain = odd(random.nextInt(Math.max(1, x.count(3))));
-        int line = odd(random.nextInt(Math.max(1, x.count(2))));
+        int plain = odd(random.nextInt(Math.max(1, m.count(3))));
+        int line = odd(random.nextInt(Math.max(1, m.count(2))));
         String row = " p" + p + " t" + t + " u" + u + " s" + s + " y" + y + " need" + need + " w" + w1 + "/" + w2 + " price" + price
             + " most" + most + " k" + k + back + " step" + step + " ten" + ten + " kind" + kind + " ts" + ts + " plain" + plain + " line" + line;
         switch (which) {
@@ -385,7 +390,7 @@ public final class ModelTest {
         int step = v[10];
         int line = v[11];
         // The model is slow where there are many plain ownings.
-        boolean heavy = x.count(3) > 70 && random.nextInt(4) != 0;
+        boolean heavy = m.count(3) > 70 && random.nextInt(4) != 0;
         switch (heavy && (which == 21 || which == 22 || which == 23 || which == 25) ? 99 : which) {
             case 21:
                 return agree("first" + row, () -> x.first(w2), () -> m.first(w2));

@@ -1,76 +1,7 @@
-import java.util.NoSuchElementException;
-
 /** Each promise by ordinary inputs, by the edges that the document names and by wrong inputs. */
-public final class PromiseTest {
-    interface Call {
-        long answer();
-    }
-
-    static final int NONE = WhoseKiln.NONE;
-    static final int MIN = Integer.MIN_VALUE;
-    static final int MAX = Integer.MAX_VALUE;
-
-    // ann's steps bring 5 each and bob's 6 to those who have the kiln; the two of them make 10 without it.
-    static final String KILN = "person ann costs 3 8;person bob costs 4;thing kiln;"
-        + "makes ann*5 with ann kiln;makes bob*6 with bob kiln;makes 10 with ann bob;";
-    // a wants to stand where b stands, b wants to stand elsewhere: turns come to no end.
-    static final String CHASE = "person a costs 1;person b costs 1;thing k;makes 10*(a=b) with a;makes 10*(1-(a=b)) with b;";
+public final class PromiseTest extends Due {
     static final String TRIO = "person a costs 1;person b costs 1;person c costs 1;thing t;"
         + "makes 12 with a b;makes 6 with a c;makes 9 with a b c t;";
-
-    static int promise;
-    static int wrong;
-
-    static void due(String call, long got, long want) {
-        if (got != want) {
-            wrong++;
-            System.out.println("promise " + promise + ": " + call + " answered " + got + ", due is " + want);
-        }
-    }
-
-    static void due(String call, boolean got, boolean want) {
-        due(call, got ? 1 : 0, want ? 1 : 0);
-    }
-
-    static void fails(String call, Call c) {
-        String got;
-        try {
-            got = "answered " + c.answer();
-        } catch (NoSuchElementException e) {
-            return;
-        } catch (RuntimeException e) {
-            got = "threw " + e;
-        }
-        wrong++;
-        System.out.println("promise " + promise + ": " + call + " " + got + ", due is NoSuchElementException");
-    }
-
-    static int feed(WhoseKiln x, String text) {
-        int there = x.count(5);
-        for (int i = 0; i < text.length(); i += 24) {
-            long[] v = new long[3];
-            for (int j = 0; j < 24; j++) {
-                v[j / 8] = v[j / 8] << 8 | (i + j < text.length() ? text.charAt(i + j) : 0);
-            }
-            there = x.feed(v[0], v[1], v[2]);
-        }
-        return there;
-    }
-
-    static int works(WhoseKiln x, String text) {
-        feed(x, text);
-        return x.works();
-    }
-
-    static WhoseKiln of(String text) {
-        WhoseKiln x = new WhoseKiln();
-        due("works of " + text, works(x, text), 0);
-        return x;
-    }
-
-    static void fault(String text, int kind, int place) {
-        due("works of " + text, works(new WhoseKiln(), text), kind + 16 * place);
-    }
 
     public static void main(String[] args) {
         testNew();
@@ -108,14 +39,11 @@ public final class PromiseTest {
         testMark();
         testCount();
         testWrongEverywhere();
-        System.out.println(wrong == 0 ? "all promises hold" : wrong + " answers are not as due");
-        if (wrong != 0) {
-            System.exit(1);
-        }
+        end("all promises hold");
     }
 
     static void testNew() {
-        promise = 1;
+        about(1);
         WhoseKiln x = new WhoseKiln();
         for (int what = 0; what <= 5; what++) {
             due("count(" + what + ")", x.count(what), 0);
@@ -132,7 +60,7 @@ public final class PromiseTest {
     }
 
     static void testFeed() {
-        promise = 2;
+        about(2);
         WhoseKiln x = new WhoseKiln();
         due("feed of zeros", x.feed(0, 0, 0), 0);
         due("feed of a, b, c", x.feed('a', 'b', 'c'), 3);
@@ -160,7 +88,7 @@ public final class PromiseTest {
     }
 
     static void testTokens() {
-        promise = 3;
+        about(3);
         due("works of nothing", works(new WhoseKiln(), ""), 0);
         due("works of blanks", works(new WhoseKiln(), "  \n "), 0);
         fault("person", 1, 6);
@@ -202,7 +130,7 @@ public final class PromiseTest {
     }
 
     static void testSentences() {
-        promise = 3;
+        about(3);
         String four = "person a costs 1;person b costs 1;person c costs 1;person d costs 1;";
         fault(four, 0, 0);
         fault(four + "person e costs 1;", 5, 68);
@@ -232,7 +160,7 @@ public final class PromiseTest {
     }
 
     static void testLines() {
-        promise = 3;
+        about(3);
         String eight = "thing a;";
         for (int i = 0; i < 8; i++) {
             eight += "makes 1 with a;";
@@ -277,7 +205,7 @@ public final class PromiseTest {
     }
 
     static void testWorksState() {
-        promise = 3;
+        about(3);
         WhoseKiln x = of(KILN);
         x.own(0, 1, 1);
         x.bargain(2, 1);
@@ -301,7 +229,7 @@ public final class PromiseTest {
     }
 
     static void testCost() {
-        promise = 4;
+        about(4);
         WhoseKiln x = of("person a costs 0 999 7;person b costs 5;");
         due("cost(0, 0)", x.cost(0, 0), 0);
         due("cost(0, 1)", x.cost(0, 1), 0);
@@ -320,7 +248,7 @@ public final class PromiseTest {
     }
 
     static void testWorth() {
-        promise = 5;
+        about(5);
         WhoseKiln x = of(KILN);
         due("worth(3, 1, 6)", x.worth(3, 1, 6), 26);
         due("worth(3, 0, 6)", x.worth(3, 0, 6), 10);
@@ -351,7 +279,7 @@ public final class PromiseTest {
     }
 
     static void testExpressions() {
-        promise = 5;
+        about(5);
         value("2+3*4", 0, 14);
         value("(2+3)*4", 0, 20);
         value("10-3-2", 0, 5);
@@ -391,7 +319,7 @@ public final class PromiseTest {
     }
 
     static void testOwn() {
-        promise = 6;
+        about(6);
         WhoseKiln x = of(TRIO);
         due("own(0, 7, 3)", x.own(0, 7, 3), true);
         due("own(0, 7, 4)", x.own(0, 7, 4), false);
@@ -403,15 +331,15 @@ public final class PromiseTest {
         due("own(-1, 1, 1)", x.own(-1, 1, 1), false);
         due("own(0, MIN, 1)", x.own(0, MIN, 1), false);
         due("own(0, 1, MAX)", x.own(0, 1, MAX), false);
-        promise = 7;
+        about(7);
         due("owner(0, 0)", x.owner(0, 0), 7);
         due("owner(0, 1)", x.owner(0, 1), 3);
-        promise = 6;
+        about(6);
         due("own(0, 0, 2)", x.own(0, 0, 2), false);
         due("own(0, 0, 0)", x.own(0, 0, 0), false);
         due("own(0, 5, 2)", x.own(0, 5, 2), true);
         due("own(0, 5, 3)", x.own(0, 5, 3), false);
-        promise = 7;
+        about(7);
         due("owner(0, 0)", x.owner(0, 0), 5);
         due("owner(0, 1)", x.owner(0, 1), 2);
         due("own(0, 0, 1)", x.own(0, 0, 1), true);
@@ -424,7 +352,7 @@ public final class PromiseTest {
     }
 
     static void testLater() {
-        promise = 8;
+        about(8);
         WhoseKiln x = of(KILN + "thing shed;makes 4 with ann shed;");
         x.own(0, 1, 1);
         x.own(1, 1, 1);
@@ -449,7 +377,7 @@ public final class PromiseTest {
         due("later(0, -1, 1)", x.later(0, -1, 1), false);
         due("later(2, 1, 1)", x.later(2, 1, 1), false);
         due("later(-1, 1, 1)", x.later(-1, 1, 1), false);
-        promise = 9;
+        about(9);
         due("chance(0)", x.chance(0), true);
         due("share(0, 1, 0) without a chance", x.share(0, 1, 0), 12);
         due("chance(11)", x.chance(11), false);
@@ -474,7 +402,7 @@ public final class PromiseTest {
     }
 
     static void testHas() {
-        promise = 10;
+        about(10);
         WhoseKiln x = of("person a costs 1;person b costs 1;person c costs 1;thing t;thing u;");
         x.own(0, 7, 2);
         due("has(0)", x.has(0), 0);
@@ -493,7 +421,7 @@ public final class PromiseTest {
     }
 
     static void testMakes() {
-        promise = 11;
+        about(11);
         WhoseKiln x = of(KILN);
         due("makes(3, 5)", x.makes(3, 5), 21);
         due("makes(1, 5)", x.makes(1, 5), 0);
@@ -510,7 +438,7 @@ public final class PromiseTest {
     }
 
     static void testBargain() {
-        promise = 12;
+        about(12);
         WhoseKiln x = of(TRIO);
         due("bargain(2, 2)", x.bargain(2, 2), true);
         due("bargain(2, 3)", x.bargain(2, 3), false);
@@ -540,38 +468,33 @@ public final class PromiseTest {
         due("alone", y.share(2, 0, 0), 0);
     }
 
-    static void fraction(WhoseKiln x, int person, int pains, long above, long below) {
-        due("share(" + person + ", " + pains + ", 0)", x.share(person, pains, 0), above);
-        due("share(" + person + ", " + pains + ", 1)", x.share(person, pains, 1), below);
-    }
-
     static void testShare() {
-        promise = 13;
-        fraction(of("person a costs 1;person b costs 1;makes 0-7 with a b;"), 1, 0, -7, 2);
-        fraction(of("person a costs 1;person b costs 1;makes 0-8 with a b;"), 1, 0, -4, 1);
-        fraction(of("person a costs 1;makes 5 with a;"), 0, 1, 5, 1);
+        about(13);
+        share(of("person a costs 1;person b costs 1;makes 0-7 with a b;"), 1, 0, -7, 2);
+        share(of("person a costs 1;person b costs 1;makes 0-8 with a b;"), 1, 0, -4, 1);
+        share(of("person a costs 1;makes 5 with a;"), 0, 1, 5, 1);
         WhoseKiln three = of("person a costs 1;person b costs 1;person c costs 1;makes 1 with a b c;makes 1 with a b;");
-        fraction(three, 0, 0, 5, 6);
-        fraction(three, 2, 0, 1, 3);
+        share(three, 0, 0, 5, 6);
+        share(three, 2, 0, 1, 3);
         WhoseKiln four = of("person a costs 1;person b costs 1;person c costs 1;person d costs 1;thing t;"
             + "makes 1 with a b c d;makes 1 with a b c;makes 1 with a b;makes 5 with d t;");
         // 1/4 + 1/3 + 1/2 and, as all of them have the thing only together, a fourth of 5.
-        fraction(four, 0, 0, 7, 3);
-        fraction(four, 3, 0, 3, 2);
+        share(four, 0, 0, 7, 3);
+        share(four, 3, 0, 3, 2);
         four.own(0, 8, 1);
-        fraction(four, 0, 0, 13, 12);
-        fraction(four, 3, 0, 21, 4);
+        share(four, 0, 0, 13, 12);
+        share(four, 3, 0, 21, 4);
         four.later(0, 1, 1);
         four.chance(1);
         // One of ten: a and d then share the 5: 13/12 + 5/20.
-        fraction(four, 0, 0, 4, 3);
-        fraction(of(KILN), 0, 0, 5, 1);
+        share(four, 0, 0, 4, 3);
+        share(of(KILN), 0, 0, 5, 1);
         WhoseKiln nothing = of("person a costs 1;");
-        fraction(nothing, 0, 0, 0, 1);
+        share(nothing, 0, 0, 0, 1);
         WhoseKiln large = of("person a costs 1;person b costs 1;person c costs 1;makes 9999*11 with a b c;makes 0-9999*11 with a b;");
         // The two alone are cut to -99999, all together make nothing.
-        fraction(large, 2, 0, 33333, 1);
-        fraction(large, 0, 0, -33333, 2);
+        share(large, 2, 0, 33333, 1);
+        share(large, 0, 0, -33333, 2);
         fails("share(0, 0, 2)", () -> large.share(0, 0, 2));
         fails("share(0, 0, -1)", () -> large.share(0, 0, -1));
         fails("share(3, 0, 0)", () -> large.share(3, 0, 0));
@@ -582,7 +505,7 @@ public final class PromiseTest {
     }
 
     static void testWould() {
-        promise = 14;
+        about(14);
         WhoseKiln x = of(KILN);
         x.own(0, 1, 1);
         // 10 - 3 and 15 - 8 are the same: the lesser step.
@@ -602,7 +525,7 @@ public final class PromiseTest {
     }
 
     static void testIsRest() {
-        promise = 15;
+        about(15);
         WhoseKiln x = of(KILN);
         x.own(0, 1, 1);
         due("isRest(0)", x.isRest(0), 0);
@@ -617,7 +540,7 @@ public final class PromiseTest {
     }
 
     static void testRest() {
-        promise = 16;
+        about(16);
         WhoseKiln x = of(KILN);
         due("rest(0)", x.rest(0), 0);
         due("rest(1)", x.rest(1), 1);
@@ -639,39 +562,19 @@ public final class PromiseTest {
         due("rest(0) of the first to step", one.rest(0), 1);
     }
 
-    /** Made by a search: by turns these come to rest in the 30th round, or would in the 31st. */
-    static String round(String... pairs) {
-        StringBuilder s = new StringBuilder("person a costs 0 0 0;person b costs 0 0 0;person c costs 0 0 0;person d costs 0 0 0;");
-        for (int p = 0; p < 4; p++) {
-            s.append("makes 2*(").append(below(pairs[2 * p])).append(")+(").append(below(pairs[2 * p + 1])).append(") with ");
-            s.append("abcd".charAt(p)).append(';');
-        }
-        return s.toString();
-    }
-
-    static String below(String numbers) {
-        String[] n = numbers.split(" ");
-        String sum = "(a*" + n[0] + "+b*" + n[1] + "+c*" + n[2] + "+d*" + n[3] + ")";
-        return sum + "*" + sum + "*" + n[4] + "*" + n[5] + "<0";
-    }
-
     static void testRounds() {
-        promise = 16;
-        WhoseKiln x = of(round("694 6250 201 9923 192 7679", "565 3978 8420 3492 5929 3946",
-            "8463 9778 4458 2512 7151 3514", "6314 5720 3128 478 6555 5676", "1375 853 2539 361 2131 6413",
-            "7820 536 3770 4511 6957 6220", "7158 9047 979 775 8505 274", "7899 5250 6440 4272 4734 3091"));
+        about(16);
+        WhoseKiln x = of(IN_THIRTY);
         due("rest(1) at the edge", x.rest(1), 30);
         due("isRest(rest(0))", x.isRest(x.rest(0)), 1);
-        WhoseKiln y = of(round("8606 7378 4847 3742 5844 8274", "4903 795 364 3759 5564 7105",
-            "2683 7812 7458 1463 376 848", "7700 3167 3771 3757 3417 1733", "3014 3845 4987 2627 9893 3487",
-            "9145 1820 9438 5552 5141 9992", "8227 3704 6245 9058 4487 2810", "2584 8751 1259 1918 2039 5840"));
+        WhoseKiln y = of(IN_THIRTY_ONE);
         fails("rest(1) beyond the edge", () -> y.rest(1));
         due("rests(0) beyond the edge", y.rests(0) > 0, true);
         fails("reached(0) beyond the edge", () -> y.reached(0));
     }
 
     static void testRests() {
-        promise = 17;
+        about(17);
         WhoseKiln x = of(KILN);
         x.own(0, 1, 1);
         due("rests(0)", x.rests(0), 2);
@@ -704,7 +607,7 @@ public final class PromiseTest {
 
     static void testGoodBestLost() {
         WhoseKiln x = of(KILN);
-        promise = 18;
+        about(18);
         due("good(0)", x.good(0), 10);
         due("good(2)", x.good(2), 12);
         due("good(6)", x.good(6), 14);
@@ -712,14 +615,14 @@ public final class PromiseTest {
         fails("good(8)", () -> x.good(8));
         fails("good(-1)", () -> x.good(-1));
         fails("good(0) of nobody", () -> of("thing t;makes 1 with t;").good(0));
-        promise = 19;
+        about(19);
         // 5 and 6 are equally good.
         due("best(0)", x.best(0), 5);
         due("best(1)", x.best(1), 14);
         fails("best(2)", () -> x.best(2));
         fails("best(-1)", () -> x.best(-1));
         fails("best(0) of nobody", () -> of("thing t;makes 1 with t;").best(0));
-        promise = 20;
+        about(20);
         due("lost(0)", x.lost(0), 4);
         due("lost(1)", x.lost(1), 2);
         due("lost(5)", x.lost(5), 0);
@@ -727,16 +630,16 @@ public final class PromiseTest {
         due("lost(8)", x.lost(8), NONE);
         due("lost(-1)", x.lost(-1), NONE);
         due("lost(0) of nobody", of("thing t;makes 1 with t;").lost(0), NONE);
-        promise = 19;
+        about(19);
         WhoseKiln y = of("person a costs 9;person b costs 9;makes 0-5 with a;");
         due("best(0)", y.best(0), 0);
         due("best(1)", y.best(1), -5);
-        promise = 20;
+        about(20);
         due("lost(5)", y.lost(5), 18);
     }
 
     static void testReached() {
-        promise = 21;
+        about(21);
         WhoseKiln x = of(KILN);
         due("reached(0)", x.reached(0), 12);
         due("reached(1)", x.reached(1), 12);
@@ -773,17 +676,17 @@ public final class PromiseTest {
         WhoseKiln two = of("person a costs 1;person b costs 1;thing t;thing u;makes a*9 with a t;makes b*7 with b u;");
         two.bargain(2, 1);
         // b asks: a takes pains for the first thing only if it is a's own; b always does.
-        promise = 22;
+        about(22);
         due("first(0)", two.first(0), 0);
         due("first(1)", two.first(1), 4);
         due("first(2)", two.first(2), 0);
         due("first(3)", two.first(3), NONE);
         due("first(-1)", two.first(-1), NONE);
-        promise = 23;
+        about(23);
         due("gap()", two.gap(), 8);
         two.own(0, 1, 1);
         due("gap() when a has it", two.gap(), 0);
-        promise = 24;
+        about(24);
         due("joint(0)", two.joint(0), 0);
         due("joint(1)", two.joint(1), 4);
         due("joint(2)", two.joint(2), NONE);
@@ -793,25 +696,25 @@ public final class PromiseTest {
         due("joint(0)", x.joint(0), 0);
         due("joint(1)", x.joint(1), 0);
         WhoseKiln y = of("person a costs 1;person b costs 5;thing t;makes 0-a*9 with a b;makes a*6 with a t;makes 8-b with b;");
-        promise = 22;
+        about(22);
         // a's own thing tempts a: 6 - 4.5 - 1 is more than nothing, and the good falls by 4.
         due("first(0)", y.first(0), 1);
         due("first(1)", y.first(1), 3);
-        promise = 24;
+        about(24);
         due("joint(0)", y.joint(0), 1);
         due("joint(1)", y.joint(1), 0);
-        promise = 23;
+        about(23);
         due("gap()", y.gap(), 0);
         y.own(0, 1, 1);
         due("gap()", y.gap(), 4);
         WhoseKiln chase = of(CHASE);
-        promise = 22;
+        about(22);
         due("first(0) of a chase", chase.first(0), NONE);
         due("first(1) of a chase", chase.first(1), NONE);
         due("first(2) of a chase", chase.first(2), 4);
-        promise = 23;
+        about(23);
         due("gap() of a chase", chase.gap(), NONE);
-        promise = 24;
+        about(24);
         due("joint(0) of a chase", chase.joint(0), NONE);
         testWithoutEnd();
     }
@@ -819,32 +722,32 @@ public final class PromiseTest {
     /** Where the owner of t is not b the two chase one another. */
     static void testWithoutEnd() {
         WhoseKiln x = of(CHASE + "makes 15*(1-b) with b k;");
-        promise = 21;
+        about(21);
         fails("reached(0)", () -> x.reached(0));
         due("reached(1)", x.reached(1), 25);
-        promise = 22;
+        about(22);
         due("first(0)", x.first(0), 1);
         due("first(1)", x.first(1), 1);
         due("first(2)", x.first(2), 3);
-        promise = 24;
+        about(24);
         due("joint(0) without an end", x.joint(0), NONE);
         due("joint(1) without an end", x.joint(1), NONE);
-        promise = 23;
+        about(23);
         due("gap() without an end as it is", x.gap(), NONE);
         x.own(0, 2, 1);
         due("gap() as b's", x.gap(), 0);
         for (int what = 0; what <= 2; what++) {
-            promise = 22;
+            about(22);
             due("first(" + what + ") of nobody", of("thing t;").first(what), NONE);
         }
-        promise = 23;
+        about(23);
         due("gap() of nobody", of("thing t;").gap(), NONE);
-        promise = 24;
+        about(24);
         due("joint(0) of nobody", of("thing t;").joint(0), NONE);
     }
 
     static void testApart() {
-        promise = 25;
+        about(25);
         WhoseKiln x = of("person a costs 1;thing t;thing u;thing v;makes 9*a with a t u;makes 2 with v;");
         due("apart(0, 1)", x.apart(0, 1), 1);
         due("apart(1, 0)", x.apart(1, 0), 1);
@@ -867,7 +770,7 @@ public final class PromiseTest {
     }
 
     static void testOneHand() {
-        promise = 26;
+        about(26);
         // Who has both works; with other hands a step brings half of its 10 for 6.
         WhoseKiln x = of("person a costs 6;person b costs 9;thing t;thing u;makes a*10 with a t u;makes b with b;");
         due("oneHand(0, 1)", x.oneHand(0, 1), 4);
@@ -890,7 +793,7 @@ public final class PromiseTest {
     static void testWritten() {
         WhoseKiln x = of(KILN);
         x.own(0, 1, 1);
-        promise = 27;
+        about(27);
         due("written(1, 1)", x.written(1, 1), 14);
         due("written(1, 0)", x.written(1, 0), 12);
         due("written(0, 2)", x.written(0, 2), 12);
@@ -899,7 +802,7 @@ public final class PromiseTest {
         fails("written(0, -1)", () -> x.written(0, -1));
         fails("written(2, 0)", () -> x.written(2, 0));
         fails("written(-1, 0)", () -> x.written(-1, 0));
-        promise = 28;
+        about(28);
         due("writing(1, 0)", x.writing(1, 0), 1);
         due("writing(1, 1)", x.writing(1, 1), 2);
         // 12 by one step and by two: the lesser.
@@ -910,17 +813,17 @@ public final class PromiseTest {
         fails("writing(2, 0)", () -> x.writing(2, 0));
         fails("writing of nobody", () -> new WhoseKiln().writing(0, 0));
         WhoseKiln chase = of(CHASE);
-        promise = 27;
+        about(27);
         due("written(0, 0) in a chase", chase.written(0, 0), 9);
         due("written(1, 0) in a chase", chase.written(1, 0), 10);
-        promise = 28;
+        about(28);
         fails("writing(0, 0) in a chase", () -> chase.writing(0, 0));
         fails("writing(0, 1) in a chase", () -> chase.writing(0, 1));
         // Two chase one another whatever the third has written down.
         WhoseKiln third = of(CHASE + "person c costs 1;");
-        promise = 27;
+        about(27);
         fails("written(2, 0) beside a chase", () -> third.written(2, 0));
-        promise = 28;
+        about(28);
         fails("writing(2, 0) beside a chase", () -> third.writing(2, 0));
         // By c's second step alone the chase has no end: that one is passed over.
         WhoseKiln some = of("person a costs 1;person b costs 1;person c costs 1 1;"
@@ -930,7 +833,7 @@ public final class PromiseTest {
     }
 
     static void testRight() {
-        promise = 29;
+        about(29);
         WhoseKiln x = of(KILN);
         x.own(0, 1, 1);
         // For nothing bob buys, and takes the pains; for 5 he does not.
@@ -974,7 +877,7 @@ public final class PromiseTest {
     }
 
     static void testRightPrice() {
-        promise = 30;
+        about(30);
         WhoseKiln z = of("person a costs 2;person b costs 99;thing t;makes a*20 with b t;");
         z.own(0, 1, 1);
         due("rightPrice(0, 1, 60, 0)", z.rightPrice(0, 1, 60, 0), 3);
@@ -995,7 +898,7 @@ public final class PromiseTest {
     }
 
     static void testLender() {
-        promise = 31;
+        about(31);
         WhoseKiln x = of(KILN);
         x.own(0, 1, 1);
         due("lender(0, 0, 8, 0)", x.lender(0, 0, 8, 0), 0);
@@ -1022,7 +925,7 @@ public final class PromiseTest {
     }
 
     static void testHands() {
-        promise = 32;
+        about(32);
         WhoseKiln x = of("person a costs 1;person b costs 1;person c costs 1;thing t;thing u;");
         due("hands()", x.hands(), 7);
         x.own(0, 5, 2);
@@ -1036,7 +939,7 @@ public final class PromiseTest {
     }
 
     static void testLeaving() {
-        promise = 33;
+        about(33);
         WhoseKiln x = of(KILN);
         x.own(0, 1, 1);
         due("leaving(0, 5)", x.leaving(0, 5), 21);
@@ -1054,7 +957,7 @@ public final class PromiseTest {
     }
 
     static void testEdge() {
-        promise = 34;
+        about(34);
         WhoseKiln x = of(KILN);
         due("edge(0, 0, 0)", x.edge(0, 0, 0), 21);
         due("edge(0, 0, 1)", x.edge(0, 0, 1), 9);
@@ -1106,7 +1009,7 @@ public final class PromiseTest {
     }
 
     static void testMark() {
-        promise = 35;
+        about(35);
         WhoseKiln x = new WhoseKiln();
         due("mark(0, true) on nothing", x.mark(0, true), false);
         due("mark(4, false)", x.mark(4, false), false);
@@ -1147,7 +1050,7 @@ public final class PromiseTest {
     }
 
     static void testCount() {
-        promise = 36;
+        about(36);
         WhoseKiln x = of("person a costs 1 2;person b costs 1 2 3;thing t;thing u;thing v;makes 1 with a;makes 1 with t;");
         int[] want = {2, 3, 2, 64, 12, 0};
         for (int what = 0; what <= 5; what++) {
@@ -1170,40 +1073,40 @@ public final class PromiseTest {
     static void testWrongEverywhere() {
         WhoseKiln x = of(KILN);
         for (int bad : new int[] {MIN, MIN + 1, -256, -1, 1 << 16, 1 << 30, MAX}) {
-            promise = 4;
+            about(4);
             due("cost", x.cost(bad, 0), NONE);
             due("cost", x.cost(0, bad), NONE);
-            promise = 6;
+            about(6);
             due("own", x.own(bad, 1, 1) || x.own(0, bad, 1) || x.own(0, 1, bad), false);
-            promise = 8;
+            about(8);
             due("later", x.later(bad, 1, 1) || x.later(0, bad, 1) || x.later(0, 1, bad), false);
-            promise = 9;
+            about(9);
             due("chance", x.chance(bad), false);
-            promise = 10;
+            about(10);
             due("has", x.has(bad), NONE);
-            promise = 12;
+            about(12);
             due("bargain", x.bargain(bad, 0) || x.bargain(0, bad), false);
-            promise = 13;
+            about(13);
             fails("share", () -> x.share(bad, 0, 0));
             fails("share", () -> x.share(0, bad, 0));
             fails("share", () -> x.share(0, 0, bad));
-            promise = 17;
+            about(17);
             due("rests", x.rests(bad), NONE);
-            promise = 21;
+            about(21);
             fails("reached", () -> x.reached(bad));
-            promise = 25;
+            about(25);
             due("apart", x.apart(bad, 0), NONE);
             due("apart", x.apart(0, bad), NONE);
-            promise = 27;
+            about(27);
             fails("written", () -> x.written(bad, 0));
             fails("written", () -> x.written(0, bad));
-            promise = 34;
+            about(34);
             due("edge", x.edge(bad, 0, 0), NONE);
             due("edge", x.edge(0, bad, 0), NONE);
             due("edge", x.edge(0, 0, bad), NONE);
-            promise = 35;
+            about(35);
             due("mark", x.mark(bad, true) || x.mark(bad, false), false);
-            promise = 36;
+            about(36);
             due("count", x.count(bad), NONE);
         }
     }
