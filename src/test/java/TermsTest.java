@@ -437,7 +437,8 @@ public final class TermsTest extends Due {
 
     static void testTurns() {
         about("By TURNS: from PAINS 0 on, person 0, then 1, and so on, takes what they WOULD");
-        WhoseKiln x = of("person a costs 1;person b costs 1;thing k;makes 9*a*b with a b;");
+        // From a's step 1, which costs a nothing, b would step, too.
+        WhoseKiln x = of("person a costs 0;person b costs 1;thing k;makes 9*a*b with a b;");
         due("rest(0), from 0", x.rest(0), 0);
         due("rest(1), the one that changes nothing", x.rest(1), 1);
         due("isRest(5), another one", x.isRest(5), 1);
@@ -448,8 +449,9 @@ public final class TermsTest extends Due {
         due("right(0, 0, 9999, 0), from 0", x.right(0, 0, 9999, 0), 0);
         due("rightPrice(0, 0, 60, 1), from 0", x.rightPrice(0, 0, 60, 1), 0);
         due("lender(0, 0, 0, 0), from 0", x.lender(0, 0, 0, 0), 0);
-        due("written(0, 1), the other from 0", x.written(0, 1), 7);
-        due("writing(0, 1), less what is reached from 0", x.writing(0, 1), 7);
+        due("written(0, 1), the other from 0", x.written(0, 1), 8);
+        due("written(1, 1), the other from 0", x.written(1, 1), 8);
+        due("writing(0, 1), less what is reached from 0", x.writing(0, 1), 8);
         WhoseKiln y = of("person a costs 1;person b costs 1;person c costs 1;makes 9*(a+b+c=1) with a;makes 9*(a+b+c=1) with b;makes 9*(a+b+c=1) with c;");
         due("rest(0), a goes first", y.rest(0), 1);
         due("rest(1)", y.rest(1), 2);
